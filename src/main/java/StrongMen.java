@@ -505,11 +505,11 @@ public final class StrongMen {
     }
 
     private static boolean isDigit(int sign) {
-        return within(sign, '0', '9');
+        return sign >= '0' && sign <= '9';
     }
 
     private static boolean isMan(int sign) {
-        return within(sign, 'a', 'p');
+        return sign >= 'a' && sign <= 'p';
     }
 
     /** The bytes that were fed. A text is cut off at its end first, so that no reader runs past it. */
@@ -583,19 +583,19 @@ public final class StrongMen {
         }
 
         boolean houseTold(int i) {
-            return within(i, 0, HOUSES - 1) && storeys[i] > 0;
+            return i >= 0 && i < HOUSES && storeys[i] > 0;
         }
 
         boolean isUp(int i) {
-            return within(i, 0, HOUSES - 1) && storeys[i] > 0 && sags[i] < FALLEN;
+            return i >= 0 && i < HOUSES && storeys[i] > 0 && sags[i] < FALLEN;
         }
 
         boolean manTold(int m) {
-            return within(m, 0, MEN - 1) && strengths[m] > 0;
+            return m >= 0 && m < MEN && strengths[m] > 0;
         }
 
         boolean thingTold(int t) {
-            return within(t, 0, THINGS - 1) && weights[t] > 0;
+            return t >= 0 && t < THINGS && weights[t] > 0;
         }
 
         boolean isIn(int t, int i) {
@@ -750,7 +750,6 @@ public final class StrongMen {
                 if (within(sign, '2', '9')) {
                     number = times == 0 ? 0 : 1;
                     times = sign - '0';
-                    place = at;
                 } else if (isMan(sign) || sign == '.') {
                     number = add(sign == '.' ? LACKING : sign - 'a', repeated) ? 0 : 6;
                     place = first;
@@ -820,7 +819,7 @@ public final class StrongMen {
         }
 
         int hoursOf(int corner) {
-            return within(corner, 0, ALL_CORNERS - 1) ? lengths[corner] : 0;
+            return corner >= 0 && corner < ALL_CORNERS ? lengths[corner] : 0;
         }
 
         /** Whose hour it is, told or not. */
@@ -1370,9 +1369,9 @@ public final class StrongMen {
             }
         }
 
-        /** By the first rule of a letter that holds, between 0 and a bound. */
+        /** What the law says for a letter, between 0 and a bound. */
         int amount(int letter, int most) {
-            int rule = firstHolding(letter);
+            int rule = ruleFor(letter);
             if (rule < 0) {
                 return 0;
             }
@@ -1380,11 +1379,8 @@ public final class StrongMen {
             return refused ? 0 : Math.max(0, Math.min(most, value));
         }
 
-        boolean makesLetGo() {
-            return firstHolding('x') >= 0;
-        }
-
-        private int firstHolding(int letter) {
+        /** The first rule of a letter that holds, or none. */
+        int ruleFor(int letter) {
             for (int rule = 0; rule < law.rules && rule < LawCode.MOST_RULES; rule++) {
                 if (law.letters[rule] == letter && run(law.tests[rule]) != 0 && !refused) {
                     return rule;
@@ -1513,21 +1509,13 @@ public final class StrongMen {
             int more = judge.amount('t', MOST_TIRED);
             street.tired[m] = Math.min(MOST_TIRED, street.tired[m] + more);
             judge.facts[Judge.TIRED] = street.tired[m];
-            if (letsGo(m)) {
+            boolean letsGo = street.tired[m] >= MOST_TIRED || judge.ruleFor('x') >= 0;
+            // A number is drawn of everybody who has not let go, whatever the law says of sneezing.
+            boolean sneezes = !letsGo && street.draw() < judge.amount('d', 10);
+            sneezed += sneezes ? 1 : 0;
+            if (letsGo || sneezes) {
                 sag(corner / CORNERS);
             }
-        }
-
-        /** A number is drawn of everybody who has not let go, whatever the law says of sneezing. */
-        private boolean letsGo(int m) {
-            if (street.tired[m] >= MOST_TIRED || judge.makesLetGo()) {
-                return true;
-            }
-            if (street.draw() >= judge.amount('d', 10)) {
-                return false;
-            }
-            sneezed++;
-            return true;
         }
 
         private void sag(int i) {
