@@ -23,6 +23,7 @@ public final class PromiseTest {
         houseIs();
         thingIs();
         manIs();
+        dayAhead();
         load();
         duty();
         stands();
@@ -267,7 +268,7 @@ public final class PromiseTest {
             {"t5(1=1|1=2&1=2)", 5}, {"t5((1=1|1=2)&1=2)", 0}, {"t5(1=2&1=2|1=1)", 5}, {"t5(1=1&1=2|1=2|1=1)", 5},
             {"t5(1=2|1=1&1=1)", 5}, {"t5(1=2|1=1&1=2)", 0}, {"t5(1=1&1=1&1=2)", 0}, {"t5(!1=2&1=2)", 0},
             {"t5(!1=2|1=2)", 5}, {"t5(!!1=1)", 5}, {"t5(!!1=2)", 0}, {"t5(1<2)", 5}, {"t5(2<2)", 0}, {"t5(3>2)", 5},
-            {"t5(2>2)", 0}, {"t5(0-1<0)", 5}, {"t5(99999*99999<0)", 0}, {"t5(99999*99999=1409865409)", -2020},
+            {"t5(2>2)", 0}, {"t5(2>3)", 0}, {"t5(2=3)", 0}, {"t5(3<2)", 0}, {"t5(0-1<0)", 5}, {"t5(99999*99999<0)", 0}, {"t5(99999*99999=1409865409)", -2020},
             {"t99999*99999/99999(1=1)", 99}, {"t5(99999*30000<0)", 5}, {"t5([0-32768*65535-32768]/[0-1]<0)", 5},
             {"t5([0-32768*65535-32768]%[0-1]=0)", 5}, {"d10(1=1);t4(1=1);y3(1=1)", 4}};
         for (Object[] law : laws) {
@@ -279,12 +280,31 @@ public final class PromiseTest {
         x.hours(3);
         Due.law(x, "t20(1=1)");
         x.hours(2);
+        dayOfTheLaw();
         is("f rests by all facts of y", restBy(x, "ym+s+l+i+c+k+g+h(1=1)"), 99 - 5 - 60 - 5);
         is("f rests by how tired he is", restBy(x, "ya-10(1=1)"), 10);
         is("f rests by the hour", restBy(x, "yh(1=1)"), 94);
         is("f rests no more than all", restBy(x, "y100(1=1)"), 0);
         is("f does not tire by resting", restBy(x, "y0-9(1=1)"), 99);
         is("nobody rests by t", restBy(x, "t9(1=1)"), 99);
+    }
+
+    private static void dayOfTheLaw() {
+        StrongMen x = heldHouse();
+        x.hours(240);
+        Due.law(x, "tn(1=1)");
+        is("day 10", x.tried(1, 10), 10);
+        for (int k = 0; k < 9; k++) {
+            Due.law(x, "t0(1=1)");
+            x.hours(240);
+        }
+        Due.law(x, "tn+5(1=1)");
+        is("day 100 is 0", x.tried(1, 10), 5);
+        Due.law(x, "t0(1=1)");
+        x.hours(24);
+        Due.law(x, "tn+5(1=1)");
+        is("day 101 is 1", x.tried(1, 10), 6);
+        is("the day itself is counted on", x.count(1), 101);
     }
 
     /** How tired man f (5) off duty at hour 5 of day 0 is behind an hour by a law, tired 99 ahead of it. */
@@ -376,6 +396,8 @@ public final class PromiseTest {
         is("b is less tired", x.manIs(1, 1), 1);
         is("c is not tired", x.manIs(2, 1), 0);
         is("0 at least", x.manIs(3, 1), 0);
+        is("no less tired", Due.orders(x, "a0"), 1);
+        is("a is as tired", x.manIs(0, 1), 41);
         is("a man twice", Due.orders(x, "a09;a1"), 2);
         is("both count", x.manIs(0, 1), 31);
         is("a fault behind what can be done", Due.orders(x, "a9;0>11;7!;0>9"), -1013);
@@ -566,7 +588,15 @@ public final class PromiseTest {
         for (int i : new int[] {-1, 1, 6, LOW, HIGH}) {
             is("houseIs(" + i + ", 0)", x.houseIs(i, 0), -1);
         }
-        is("of a house without things", x.houseIs(0, 4) * 100 + x.houseIs(0, 5), 960 * 100 + 30);
+        x.thing(0, 3, 8, 8, 40);
+        is("the greatest at 3, the least at 2", x.houseIs(3, 4), 40 * 64 + 640);
+        x.thing(0, 3, 8, 0, 40);
+        is("the greatest at 1, the least at 2", x.houseIs(3, 4), 40 * 64 + 640);
+        x.thing(0, 3, 0, 8, 40);
+        is("the greatest at 2, the least at 0, 1 or 3", x.houseIs(3, 4), 40 * 64 - 640);
+        is("weight of all, the lowest too", x.houseIs(3, 5), 70);
+        Due.orders(x, "0!");
+        is("of another house", x.houseIs(0, 4) * 100 + x.houseIs(0, 5), 960 * 100 + 30);
         x.hours(1);
         is("sag", x.houseIs(3, 2), 4);
     }
@@ -616,6 +646,42 @@ public final class PromiseTest {
         for (int m : new int[] {-1, 5, 16, LOW, HIGH}) {
             is("manIs(" + m + ", 0)", x.manIs(m, 0), -1);
         }
+    }
+
+    /** The day goes ahead from the hour: a has 3 hours of 48, then none. */
+    private static void dayAhead() {
+        StrongMen x = new StrongMen();
+        x.house(0, 2, 0);
+        x.house(1, 3, 0);
+        x.man(0, 1);
+        x.man(1, 1);
+        Due.roster(x, 0, 0, "3a9(4.)9.");
+        is("paid for 3 hours", x.manIs(0, 4), 6);
+        is("once", x.manIs(0, 3), 0);
+        is("who strikes", x.strike(1, 1), 1);
+        is("for 3 hours", x.strike(1, 0), 3);
+        is("and another", x.strike(2, 1), 3);
+        Due.roster(x, 0, 1, "3a9(4.)9.");
+        is("twice in corners 0 and 1", x.manIs(0, 3), 3);
+        is("paid for one of two", x.manIs(0, 4), 6);
+        is("he is missed once", x.strike(1, 0), 3);
+        Due.roster(x, 0, 0, ".");
+        Due.roster(x, 1, 3, "3a9(4.)9.");
+        is("twice in two houses", x.manIs(0, 3), 3);
+        is("the lowest pays", x.manIs(0, 4), 6);
+        Due.roster(x, 0, 1, ".");
+        is("the other pays", x.manIs(0, 4), 9);
+        is("where he stands", x.manIs(0, 2), 7);
+        is("duty(1, 3)", x.duty(1, 3), 0);
+        is("relieved(1, 3, 1)", x.relieved(1, 3, 1), 21);
+        is("relieved(1, 3, 2)", x.relieved(1, 3, 2), 3);
+        x.hours(2);
+        is("at hour 2", x.manIs(0, 4), 3);
+        x.hours(1);
+        is("none is left", x.manIs(0, 4), 0);
+        x.hours(22);
+        x.house(1, 3, 0);
+        is("hours 48 of the roster are hours 0 again", x.manIs(0, 4), 3);
     }
 
     private static void load() {
@@ -689,6 +755,10 @@ public final class PromiseTest {
         x.man(6, 9);
         Due.roster(x, 1, 0, "e");
         Due.roster(x, 1, 1, "f");
+        StrongMen z = new StrongMen();
+        z.house(0, 1, 0);
+        z.hours(2);
+        is("house 0 in the next hour", z.fallsFirst(1), 0);
         is("two at once: the lowest", x.fallsFirst(240), 2);
         is("not in two hours", x.fallsFirst(2), -2);
         is("in three", x.fallsFirst(3), 2);
@@ -729,6 +799,16 @@ public final class PromiseTest {
         int[] want = {0, 1, 2, 3, 160, 1};
         for (int what = 0; what < 6; what++) {
             is("stand(0, 15, " + what + ")", x.stand(0, 15, what), want[what]);
+        }
+        x.thing(0, 0, 8, 0, 60);
+        int[] second = {0, 3, 1, 2, 112, 1};
+        for (int what = 0; what < 6; what++) {
+            is("stand(0, 15, " + what + ")", x.stand(0, 15, what), second[what]);
+        }
+        x.thing(0, 0, 0, 8, 60);
+        int[] third = {0, 1, 3, 2, 112, 1};
+        for (int what = 0; what < 6; what++) {
+            is("stand(0, 15, " + what + ")", x.stand(0, 15, what), third[what]);
         }
         x.thing(0, 0, 0, 0, 60);
         int[] turned = {3, 0, 1, 2, 112, 1};
@@ -773,6 +853,7 @@ public final class PromiseTest {
         is("nobody: 0", x.go(0, 0), -2);
         Due.roster(x, 0, 2, "a");
         is("by the roster, whoever stands elsewhere", x.go(0, 0), 1);
+        goByTheLeast();
         for (int t = 0; t < 12; t++) {
             x.thing(t, 0, 8, 8, 99);
         }
@@ -786,6 +867,22 @@ public final class PromiseTest {
         int[][] wrong = {{1, 0}, {-1, 0}, {6, 0}, {0, -1}, {0, 2}, {HIGH, 0}, {0, LOW}};
         for (int[] w : wrong) {
             is("go(" + w[0] + ", " + w[1] + ")", x.go(w[0], w[1]), -1);
+        }
+    }
+
+    /** Each corner by itself: a strength that is just enough, and one that is one too little. */
+    private static void goByTheLeast() {
+        for (int c = 0; c < 4; c++) {
+            StrongMen x = heldHouse();
+            for (int m = 0; m < 4; m++) {
+                x.man(m, m == c ? 90 : 10);
+            }
+            x.thing(0, 0, c % 2 * 8, c / 2 * 8, 80);
+            is("90 carry 10 and 80 at corner " + c, x.go(0, 0), 0);
+            x.man(c, 89);
+            is("89 do not at corner " + c, x.go(0, 0), 1);
+            x.man(c, 9);
+            is("9 carry nothing at corner " + c, x.go(0, 0), -2);
         }
     }
 
@@ -806,6 +903,14 @@ public final class PromiseTest {
                 is("nowhere", Due.felt(x, 0, 7, 1, loads), -2);
             }
         }
+        StrongMen z = oneHouse();
+        for (int t = 0; t < 24; t++) {
+            z.thing(t, 0, 8, 8, 99);
+        }
+        int heavy = 640 + 24 * 99 * 64;
+        is("a load of three bytes", Due.felt(z, 0, 2, 0, 640, 640, 640, heavy + 128), 1);
+        is("not with a fourth", Due.felt(z, 0, 2, 0, 640, 640, 640, heavy + 128 + (1 << 24)), 0);
+        is("not with a fourth", Due.felt(z, 0, 2, 0, 640 + LOW, 640, 640, heavy + 128), 0);
         is("loads below 0", Due.felt(x, 0, 1, 0, LOW, LOW, HIGH, HIGH), 0);
         is("loads below 0", Due.felt(x, 0, 1, 1, -1, -1, -1, -1), -2);
         is("nobody", Due.felt(x, 0, 1, 0, 1280, 640, 640, 640), 0);
@@ -908,6 +1013,18 @@ public final class PromiseTest {
         is("the first is 27 away: both to the left", x.fewest(0) * 100 + x.fewest(1), 234);
         x.house(5, 9, 77);
         is("the last is 27 away", x.fewest(0) * 100 + x.fewest(1), 132);
+        x.house(5, 1, 0);
+        x.house(4, 1, 3);
+        x.house(0, 1, 6);
+        x.house(1, 1, 50);
+        x.house(2, 1, 47);
+        x.house(3, 1, 44);
+        is("three to the right, three to the left", x.fewest(0) * 100 + x.fewest(1), 203);
+        x.house(4, 2, 3);
+        x.house(0, 1, 9);
+        x.house(2, 2, 47);
+        x.house(1, 1, 53);
+        is("the ends do it no more", x.fewest(0) * 100 + x.fewest(1), 200 + 32 + 8);
         for (int what : new int[] {-1, 2, LOW, HIGH}) {
             is("fewest(" + what + ")", x.fewest(what), -1);
         }
@@ -1047,6 +1164,10 @@ public final class PromiseTest {
         is("no house, no such what", x.heaviest(3), -1);
         x.house(4, 2, 0);
         x.house(2, 2, 0);
+        StrongMen z = oneHouse();
+        is("house 0", z.heaviest(0), 0);
+        is("corner 0", z.heaviest(1), 0);
+        is("its load", z.heaviest(2), 640);
         is("the lowest house", x.heaviest(0), 2);
         is("the lowest corner", x.heaviest(1), 0);
         is("the load", x.heaviest(2), 1280);
@@ -1133,6 +1254,7 @@ public final class PromiseTest {
         bytesOn(x, "check", 0);
         is("right, in part", Due.check(x, 2, 4), -1);
         is("the first that is not so", Due.check(x, 2, 5, 6, 9), 1);
+        is("the very first", Due.check(x, 3, 5, 6, 8), 0);
         is("not told: 0", Due.check(x, 2, 4, 6, 8, 1), 4);
         is("all", Due.check(x, 2, 4, 6, 8, 0, 0, 0, 0, 0, 0, 0, 0, 0, 0, 0, 0), -1);
         is("the last", Due.check(x, 2, 4, 6, 8, 0, 0, 0, 0, 0, 0, 0, 0, 0, 0, 0, 200), 15);
