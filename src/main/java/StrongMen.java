@@ -1793,7 +1793,7 @@ public final class StrongMen {
             return bits;
         }
 
-        /** The bits of the fewest that make all fall. */
+        /** The bits of the fewest that make all fall; bits are tried from the least on. */
         int leastPushed() {
             int all = street.upBits();
             for (int i = 0; i < HOUSES; i++) {
@@ -1803,8 +1803,7 @@ public final class StrongMen {
             int best = all;
             for (int pushed = 0; pushed < 1 << HOUSES; pushed++) {
                 boolean fewer = Integer.bitCount(pushed) < Integer.bitCount(best);
-                boolean like = Integer.bitCount(pushed) == Integer.bitCount(best) && pushed < best;
-                if ((pushed & ~all) == 0 && (fewer || like) && canFell(pushed, all)) {
+                if ((pushed & ~all) == 0 && fewer && canFell(pushed, all)) {
                     best = pushed;
                 }
             }
