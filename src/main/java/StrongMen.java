@@ -1833,6 +1833,7 @@ public final class StrongMen {
     /** Bricks, bread and beams: what does not hang on the street. */
     private static final class Handiwork {
         static final int PIECES = 8;
+        private static final int MOST_BRICKS = 8;
         /** A row 16 wide can be laid in 37 ways. */
         private static final int MOST_ROWS = 40;
 
@@ -1844,8 +1845,7 @@ public final class StrongMen {
         private final int[] costs = new int[PIECES * PIECES];
 
         long walls(int wide, int high) {
-            laid = 0;
-            lay(wide, 0, 0, 0);
+            layRows(wide);
             for (int row = 0; row < laid; row++) {
                 ways[row] = 1;
             }
@@ -1859,22 +1859,24 @@ public final class StrongMen {
             return sum;
         }
 
-        /** All rows as the bits of their seams. Bricks are 2 long at least, so 8 fill the widest row. */
-        private void lay(int wide, int from, int seams, int bricksLaid) {
-            if (from == wide) {
-                if (laid < MOST_ROWS) {
+        /**
+         * All rows as the bits of their seams. Bricks are 2 long at least, so 8 fill the widest row, and
+         * 8 bits tell which of them are long; bits that are left over would tell the same row again.
+         */
+        private void layRows(int wide) {
+            laid = 0;
+            for (int longOnes = 0; longOnes < 1 << MOST_BRICKS; longOnes++) {
+                int seams = 0;
+                int to = 0;
+                int left = longOnes;
+                for (int brick = 0; brick < MOST_BRICKS && to < wide; brick++) {
+                    to += 2 + (left & 1);
+                    left >>= 1;
+                    seams |= to < wide ? 1 << to : 0;
+                }
+                if (to == wide && left == 0 && laid < MOST_ROWS) {
                     rows[laid] = seams;
                     laid++;
-                }
-                return;
-            }
-            if (bricksLaid > 8) {
-                return;
-            }
-            for (int length = 2; length <= 3; length++) {
-                int to = from + length;
-                if (to <= wide) {
-                    lay(wide, to, to < wide ? seams | 1 << to : seams, bricksLaid + 1);
                 }
             }
         }

@@ -84,10 +84,21 @@ public final class LanguageTest {
                 end = head.group(1) + "}";
             } else if (start >= 0 && lines[k].equals(end)) {
                 right("at most sixty lines: " + lines[start].trim(), k - start < 60);
+                recursion(lines, start, k);
                 start = -1;
             }
         }
         right("every method was seen to its end", start < 0);
+    }
+
+    /** The law's readers call one another, down to the depth that they carry; nothing else comes back to itself. */
+    private static void recursion(String[] lines, int start, int end) {
+        Matcher head = Pattern.compile("(\\w+)\\(").matcher(lines[start]);
+        String name = head.find() ? head.group(1) : "";
+        Pattern itself = Pattern.compile("(?<![\\w.])" + name + "\\(");
+        for (int k = start + 1; k < end; k++) {
+            right("does not call itself: " + name, name.equals("readTest") || !itself.matcher(lines[k]).find());
+        }
     }
 
     private static void face() {
